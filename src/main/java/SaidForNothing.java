@@ -1387,9 +1387,12 @@ public final class SaidForNothing {
             return spreadLoss(truth, word, wish);
         }
 
-        /** As much of REGRET as hangs on the word: the rest of a blurred one is the same for all words. */
+        /**
+         * As much of REGRET as tells one word from another: the rest of a blurred one is the same for all words.
+         * (When nothing is clear all acts are alike, and so are these.)
+         */
         long dislike(int truth, int word) {
-            return clear == 0 ? 0 : lossAt(truth, word, wish);
+            return lossAt(truth, word, wish);
         }
 
         long worthFor(int side) {

@@ -329,6 +329,17 @@ public final class PromiseTest {
         fault("so 5;two 501 x", 9);
         fault("so 5;two 1 -501", 12);
         fault("so 5;two -1 -1;two 0 500", -1);
+        fault("so 5*100,x", 5);
+        fault("so 5,4,x", 5);
+        fault("so 5;two 501 1;x", 9);
+        fault("so 5;two 1 501;x", 11);
+        fault("so 5;two 1x;x", 10);
+        fault("so 5;wish 501;x", 10);
+        fault("so 5;lean -501;x", 11);
+        fault("so 5;words 13;x", 11);
+        fault("so 5;loss b;x", 10);
+        fault("so 5;loss;x", 9);
+        fault("so 5;lose a;x", 8);
         fault("so 5;two 1 2 3", 12);
         due("a right talk behind a fault", talk("so 1"), 0);
         due("fault", x.fault(), -1);
@@ -574,12 +585,22 @@ public final class PromiseTest {
         x.tell(0, 0, 10);
         x.tell(0, 1, 0);
         due("crossed: the speaker first", x.judge(0), 1);
+        toldTies();
+    }
+
+    private void toldTies() {
         talk("so 0,10;loss a");
         words(0, 8, 8);
         x.meaning(1, 5, 0, 0);
         for (int act = 0; act <= 11; act++) {
             x.tell(1, 8, act);
             due("no number is better than " + act, x.judge(1), act <= 10 ? -1 : 10_008);
+        }
+        talk("so 0*3,10;lean 2");
+        x.meaning(2, 5, 0, 0);
+        for (int act = 2; act <= 7; act++) {
+            x.tell(2, 8, act);
+            due("4 and 5 are as good, not " + act, x.judge(2), act == 4 || act == 5 ? -1 : 10_008);
         }
     }
 
@@ -679,10 +700,17 @@ public final class PromiseTest {
         due("both of worth 1", x.best(0, 0), 1);
         due("both of worth 1", x.best(0, 1), 1);
         due("finest", x.finest(0), 1);
-        talk("so 500,501,502,503,504,505");
-        due("all ways of six but those that cross", x.any(1) > 32 ? 1 : 0, 1);
+        talk("so 1,2,3,4,5,6;lean -6");
+        due("all acts are 0: all runs hold", x.runs(1), 32);
+        due("the finest", x.finest(1), 31);
+        due("the best", x.best(1, 0) + x.best(1, 1), 0);
+        due("all ways", x.any(1), 203);
+        talk("so 1,2,3,4,5,6;lean -6;words 3");
+        due("runs of three words: 1, 5, 10", x.runs(2), 16);
+        due("the finest", x.finest(2), 3);
+        due("ways with three words: 1, 31, 90", x.any(2), 122);
         talk("so 0,999;lean 500;wish 500");
-        due("one word of two", x.best(2, 0), 1);
+        due("acts 500 and 999", x.best(3, 0), 1);
     }
 
     private void promise31() {
@@ -703,7 +731,18 @@ public final class PromiseTest {
         due("acts 40 and 55: 10 and 47.5", x.edge(3, 2), 47);
         talk("so 100,101;lean -40");
         due("wishes below 0 only", x.edge(4, 2), -1);
-        due("no talk", x.edge(5, 0), -11);
+        int[][] leans = {{55, 60}, {68, 63}, {69, -1}};
+        for (int[] lean : leans) {
+            x.change(2, 1, lean[0]);
+            due("wishes from lean - 5 to lean + 5", x.edge(2, 2), lean[1]);
+        }
+        talk("so 0,11;lean 68");
+        due("wishes from 62.5 to 73.5", x.edge(5, 2), 63);
+        x.change(5, 1, 69);
+        due("wishes from 63.5 to 74.5", x.edge(5, 2), -1);
+        x.change(5, 1, 0);
+        due("wishes to 5.5", x.edge(5, 2), 5);
+        due("no talk", x.edge(6, 0), -11);
         due("no talk", x.edge(-1, 1), -11);
         due("k", x.edge(0, 0), -16);
         due("k", x.edge(0, 13), -16);
@@ -742,7 +781,16 @@ public final class PromiseTest {
         due("three words", x.middle(0, 12, 1), -1);
         talk("so 0,10;words 1");
         due("not more words than there are", x.middle(1, 2, 0), -1);
-        due("no talk", x.middle(2, 0, 0), -11);
+        talk("so 0,4,9*3;wish 2;loss a");
+        due("925 by 200, less than 1000", x.middle(2, 2, 0), 95);
+        due("blurred, 0 and 4 go together", x.middle(2, 2, 1), 2);
+        talk("so 0,2,4,7*3;wish 1;loss a");
+        due("855 by 300 is 815 by 300", x.middle(3, 3, 0), 95);
+        due("so the least cuts", x.middle(3, 3, 1), 5);
+        talk("so 0,1*2,5,7;wish 2;loss a");
+        due("2500 by 300 is 2440 by 300: the clearest", x.middle(4, 3, 0), 50);
+        due("cuts", x.middle(4, 3, 1), 6);
+        due("no talk", x.middle(5, 0, 0), -11);
         due("k", x.middle(0, 0, 0), -16);
         due("k", x.middle(0, 13, 0), -16);
         due("what", x.middle(0, 1, 2), -16);
@@ -770,6 +818,8 @@ public final class PromiseTest {
         talk("so 0,10;wish 6");
         due("best ends", x.bestEnds(1), 10);
         due("36 is less than 50", x.leave(1), 1);
+        x.change(1, 0, -6);
+        due("best ends", x.bestEnds(1), 4);
         talk("so 0,4;wish 3");
         due("best ends", x.bestEnds(2), 4);
         due("9 isn't less than 8", x.leave(2), 0);
@@ -777,11 +827,14 @@ public final class PromiseTest {
         due("kept to what can be done", x.bestEnds(3), 490_490);
         talk("so 990;wish 100;lean 500");
         due("kept to what can be done", x.bestEnds(4), 999_999);
-        due("no talk", x.ends(5, 0, 0), FAR - 5);
+        talk("so 500,510;wish 6");
+        due("best ends", x.bestEnds(5), 500_510);
+        due("36 is less than 50", x.leave(5), 1);
+        due("no talk", x.ends(6, 0, 0), FAR - 5);
         due("a below", x.ends(0, -1, 0), FAR - 5);
         due("b beyond", x.ends(0, 0, 1000), FAR - 5);
         due("a above b", x.ends(0, 2, 1), FAR - 5);
-        due("no talk", x.bestEnds(5), -1);
+        due("no talk", x.bestEnds(6), -1);
         due("no talk", x.leave(-1), -1);
         refused(2, 0, 0, 0, 4);
     }
@@ -795,7 +848,20 @@ public final class PromiseTest {
         due("one truth alone", x.agree(1, -500), -1);
         x.change(0, 0, -500);
         due("0 against 9", x.agree(0, 500), 1);
-        due("no talk", x.agree(2, 0), -11);
+        talk("so 400,600;wish 300");
+        due("0 is far enough from 300", x.agree(2, -300), -1);
+        due("0 is too near to 299", x.agree(2, -301), 100);
+        x.change(2, 0, 299);
+        due("998 is far enough from 699", x.agree(2, -301), -1);
+        x.change(2, 1, 1);
+        x.change(2, 0, 301);
+        due("0 is too near to 300, 999 to 701", x.agree(2, -300), 100);
+        due("0 is far enough from 301", x.agree(2, -299), -1);
+        x.change(2, 0, 300);
+        due("999 is far enough from 700", x.agree(2, -300), -1);
+        talk("so 10,20;wish -8");
+        due("10 to 20, though 0 and 1004 are of no use", x.agree(3, 492), -1);
+        due("no talk", x.agree(4, 0), -11);
         due("no talk", x.agree(-1, 501), -11);
         due("wish", x.agree(0, 501), -16);
         due("wish", x.agree(0, -501), -16);
@@ -832,7 +898,13 @@ public final class PromiseTest {
         due("0 is said and comes", x.draw(1, 1, 3), 10);
         x.chance(0, 0, 3);
         due("2, 2, 1, 3", x.draw(0, 1, 4), 10);
-        due("no meaning", x.draw(2, 1, 1), FAR - 5);
+        x.change(0, 1, -20);
+        due("0 for -20 or -10: 20 each, less 10 for a 10", x.draw(0, 1, 4), 20 + 20 + 20 + 10);
+        talk("so 0;lean -2");
+        x.meaning(1, 4, 0, 0);
+        due("200 times", x.draw(2, 99, 200), 800);
+        due("once", x.draw(2, 99, 1), 4);
+        due("no meaning", x.draw(3, 1, 1), FAR - 5);
         due("n", x.draw(0, 1, 0), FAR - 5);
         due("n", x.draw(0, 1, 201), FAR - 5);
         refused(0, 0, 0, 0, 3);
