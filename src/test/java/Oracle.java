@@ -980,8 +980,18 @@ final class Oracle {
         if (in(what, 11, 17)) {
             return refusals[what - 10];
         }
-        int[] of = {talks.size(), meanings.size(), Long.bitCount(still()), traced.size()};
-        return in(what, 0, 3) ? of[what] : -1;
+        switch (what) {
+            case 0:
+                return talks.size();
+            case 1:
+                return meanings.size();
+            case 2:
+                return Long.bitCount(still());
+            case 3:
+                return traced.size();
+            default:
+                return -1;
+        }
     }
 
     /** What is taken from a refused call's answer for its number: those that may be below 0 lie far off. */

@@ -8,8 +8,9 @@ import java.util.Random;
 
 /** Random runs of calls, each answered by the class and by the Oracle. The seeds are fixed. */
 public final class OracleTest {
-    private static final int RUNS = 260;
-    private static final int CALLS = 400;
+    private static final int RUNS = 520;
+    /** An object is for 512 calls; a step makes at most some seventy. */
+    private static final int LAST_STEP = 512 - 75;
     private static final String[] CALL_NAMES = {"row", "set", "set", "copy", "element", "show", "show", "holds", "says",
         "says", "talk", "fault", "talkOf", "truth", "done", "done", "change", "change", "chance", "chance", "meaning",
         "meaning", "meaning", "meaning", "tell", "tell", "meaningOf", "word", "thought", "does", "does", "judge",
@@ -25,6 +26,7 @@ public final class OracleTest {
     private final Map<String, Method> oracleCalls = new HashMap<>();
     private final List<String> log = new ArrayList<>();
     private final int most;
+    private int calls = 0;
 
     private OracleTest(int seed, Checks checks) {
         random = new Random(seed);
@@ -45,9 +47,10 @@ public final class OracleTest {
         for (int seed = 0; seed < RUNS && checks.wrong() == 0; seed++) {
             checks.about("run " + seed);
             OracleTest run = new OracleTest(seed, checks);
-            for (int i = 0; i < CALLS && checks.wrong() == 0; i++) {
+            while (run.calls < LAST_STEP && checks.wrong() == 0) {
                 run.step();
             }
+            checks.that("the run makes more calls than an object is for", run.calls <= 512);
             if (checks.wrong() > 0) {
                 run.log.forEach(System.out::println);
             }
@@ -61,6 +64,7 @@ public final class OracleTest {
             told.append(i == 0 ? "" : ", ").append(args[i]);
         }
         String call = told.append(')').toString();
+        calls++;
         long got = ((Number) testedCalls.get(name).invoke(tested, args)).longValue();
         long want;
         try {
@@ -93,16 +97,16 @@ public final class OracleTest {
         return high < low ? low : pick(low, high);
     }
 
-    private int talkNumber() throws Exception {
-        return about(0, tested.status(0) - 1);
+    private int talkNumber() {
+        return about(0, (int) oracle.status(0) - 1);
     }
 
-    private int meaningNumber() throws Exception {
-        return about(0, tested.status(1) - 1);
+    private int meaningNumber() {
+        return about(0, (int) oracle.status(1) - 1);
     }
 
     private int truths(int talk) {
-        int n = talk >= 0 && talk < tested.status(0) ? tested.talkOf(talk, 0) : 3;
+        int n = talk >= 0 && talk < oracle.status(0) ? (int) oracle.talkOf(talk, 0) : 3;
         return Math.max(1, n);
     }
 

@@ -2,7 +2,7 @@
 public final class PromiseTest {
     private static final long FAR = -2_000_000_000L;
     private final Checks checks = new Checks();
-    private SaidForNothing x;
+    private Counted x = new Counted();
 
     public static void main(String[] args) {
         PromiseTest test = new PromiseTest();
@@ -17,8 +17,9 @@ public final class PromiseTest {
     }
 
     private void fresh(String about) {
+        checks.that("the test makes more calls than an object is for", !x.usedTooLong());
         checks.about(about);
-        x = new SaidForNothing();
+        x = new Counted();
     }
 
     private void due(String call, long got, long want) {
@@ -52,7 +53,7 @@ public final class PromiseTest {
     }
 
     private void fault(String text, int place) {
-        x = new SaidForNothing();
+        x = new Counted();
         due("talk of '" + text + "'", talk(text), place < 0 ? 0 : -6);
         due("fault of '" + text + "'", x.fault(), place);
         refused(0, 0, 0, 0, 0, place < 0 ? 0 : 1);
