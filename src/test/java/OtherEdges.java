@@ -66,9 +66,10 @@ final class OtherEdges extends Edges {
         String[] texts = {"so 5", "so 0", "so 999", "so 7;lean -500;wish 3", "so 990;wish 500;lean 500",
             "so 7;lean -500;wish -500", "so 5,9", "so 5,9;wish 3", "so 5,9;wish -3", "so 5*9,9;wish 3",
             "so 5,9*9;wish -3", "so 0,10;wish 10;loss a", "so 5;wish 9",
-            "so 0,10,20;wish 3", "so 0,10,20;wish -3", TWELVE + ";wish 3", "so 500,510;wish 6", "so 500,510;wish -6"};
+            "so 0,10,20;wish 3", "so 0,10,20;wish -3", TWELVE + ";wish 3", "so 500,510;wish 6", "so 500,510;wish -6",
+            "so 1,6,18;wish 9", "so 3,9;wish 5", "so 21,33,38;wish -9"};
         int[] best = {5005, 0, 999_999, 0, 999_999, 0, 5009, 5009, 5006, 5005, 9009, 0, 5005,
-            20, 17, 8, 500_510, 500_504};
+            20, 17, 8, 500_510, 500_504, 1010, 3009, 29_029};
         for (int i = 0; i < texts.length; i++) {
             freshTalk(texts[i]);
             due(x.bestEnds(0), best[i]);

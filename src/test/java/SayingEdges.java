@@ -1,3 +1,6 @@
+import java.util.ArrayList;
+import java.util.List;
+
 /** Boundary cases of WHAT CAN BE SAID in a TALK: promises 26 to 34. */
 final class SayingEdges extends Edges {
     /** All acts are 0, so that all RUNS hold and are of one WORTH. */
@@ -21,6 +24,7 @@ final class SayingEdges extends Edges {
         doors();
         middle();
         middleTies();
+        talksApart();
     }
 
     private void runs() {
@@ -352,6 +356,45 @@ final class SayingEdges extends Edges {
         for (int i = 0; i < texts.length; i++) {
             freshTalk(texts[i]);
             middleIs(0, middles[i][0], middles[i][1], middles[i][2]);
+        }
+    }
+
+    private List<Long> allOf(int talk, int truths) {
+        List<Long> all = new ArrayList<>(List.of((long) x.runs(talk), (long) x.finest(talk), (long) x.bound(talk),
+            (long) x.any(talk), (long) x.room(talk), (long) x.doors(talk), (long) x.bestEnds(talk),
+            (long) x.leave(talk), (long) x.done(talk, 1), x.ends(talk, 3, 9)));
+        for (int k = 1; k <= truths + 1; k++) {
+            all.add((long) x.edge(talk, k));
+            all.add((long) x.middle(talk, k, 0));
+            all.add((long) x.middle(talk, k, 1));
+        }
+        for (int side = 0; side < 2; side++) {
+            all.add((long) x.best(talk, side));
+            all.add(x.beside(talk, side));
+            all.add((long) x.agree(talk, 1000 * side - 500));
+        }
+        return all;
+    }
+
+    /** What is told of a TALK has nothing to do with the TRUTHS of a greater one that was asked of before. */
+    private void talksApart() {
+        sentence("TALKS", "TRUTHS of a TALK are its ITEMS, numbered from 0 on.");
+        String[] great = {TWELVE + ";two 1 1;wish 1", "so 0,1,2,3,4,5;two 1 -1", "so 1,5,30,31,70,400;wish -500"};
+        String[] small = {"so 7;wish 9;two 3 3", "so 20,30;wish 5;two 0 5", "so 11,13,20;wish -1;two 0 -1",
+            "so 50,54,60,77;wish -500;two 2 1", "so 30,41*2,53;wish 3;loss a;two 0 2"};
+        int[] truths = {1, 2, 3, 4, 3};
+        for (int i = 0; i < small.length; i++) {
+            freshTalk(small[i]);
+            List<Long> alone = allOf(0, truths[i]);
+            for (String text : great) {
+                freshTalk(text);
+                due(x.meaning(0, 4, 0, 0), 0);
+                due(talk(small[i]), 1);
+                allOf(0, 1);
+                x.judge(0);
+                List<Long> behind = allOf(1, truths[i]);
+                that(small[i] + " alone: " + alone + ", behind " + text + ": " + behind, alone.equals(behind));
+            }
         }
     }
 }
