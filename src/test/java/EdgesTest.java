@@ -12,7 +12,8 @@ public final class EdgesTest {
         Checks checks = new Checks();
         Document document = new Document(Path.of("../shared/DOC.md"));
         Edges[] all = {new ShelfEdges(checks, document), new TalkEdges(checks, document),
-            new MeaningEdges(checks, document), new SayingEdges(checks, document), new OtherEdges(checks, document), new StateEdges(checks, document), new RefusalEdges(checks, document)};
+            new MeaningEdges(checks, document), new SayingEdges(checks, document), new OtherEdges(checks, document),
+            new StateEdges(checks, document), new RefusalEdges(checks, document)};
         for (Edges edges : all) {
             edges.run();
             edges.fresh();
