@@ -9,10 +9,12 @@ import com.sun.source.tree.MemberReferenceTree;
 import com.sun.source.tree.MethodInvocationTree;
 import com.sun.source.tree.MethodTree;
 import com.sun.source.tree.NewClassTree;
+import com.sun.source.tree.SwitchTree;
 import com.sun.source.tree.SynchronizedTree;
 import com.sun.source.tree.ThrowTree;
 import com.sun.source.tree.Tree;
 import com.sun.source.tree.TryTree;
+import com.sun.source.tree.TypeCastTree;
 import com.sun.source.tree.VariableTree;
 import com.sun.source.util.JavacTask;
 import com.sun.source.util.TreePath;
@@ -35,6 +37,8 @@ import java.util.regex.Matcher;
 import java.util.regex.Pattern;
 import javax.lang.model.element.Element;
 import javax.lang.model.element.ExecutableElement;
+import javax.lang.model.type.ArrayType;
+import javax.lang.model.type.TypeKind;
 import javax.lang.model.type.TypeMirror;
 import javax.tools.JavaCompiler;
 import javax.tools.StandardJavaFileManager;
@@ -45,6 +49,9 @@ public final class LanguageTest {
     private static final Set<String> LIBRARY = Set.of("java.lang.String.length", "java.lang.String.charAt",
         "java.lang.String.equals", "java.lang.Integer.bitCount", "java.lang.Math.abs", "java.lang.Math.min",
         "java.lang.Math.max", "java.lang.Math.floorDiv", "java.lang.System.arraycopy", "java.lang.Object.<init>");
+    private static final Set<TypeKind> NUMBERS = Set.of(TypeKind.INT, TypeKind.LONG, TypeKind.SHORT, TypeKind.BYTE,
+        TypeKind.CHAR);
+    private static final Set<String> RESERVED = Set.of("equals", "hashCode", "toString", "finalize", "clone");
 
     private final Checks checks = new Checks();
     private final Map<String, Set<String>> calls = new HashMap<>();
@@ -143,9 +150,64 @@ public final class LanguageTest {
             return trees.getTypeMirror(new TreePath(getCurrentPath(), tree));
         }
 
+        private boolean isNumber(TypeMirror type) {
+            return NUMBERS.contains(type.getKind());
+        }
+
+        private boolean isArrayOfNumbers(TypeMirror type) {
+            return type.getKind() == TypeKind.ARRAY && isNumber(((ArrayType) type).getComponentType());
+        }
+
+        private boolean isText(TypeMirror type) {
+            return type.toString().equals("java.lang.String");
+        }
+
+        private boolean isOwn(TypeMirror type) {
+            return type.getKind() == TypeKind.DECLARED && type.toString().startsWith("SaidForNothing");
+        }
+
+        /** The class needs no more of rule 3 than numbers, texts, its own classes and rows of them. */
+        private boolean isPlain(TypeMirror type) {
+            boolean single = isNumber(type) || type.getKind() == TypeKind.BOOLEAN || isText(type) || isOwn(type);
+            return single || isArrayOfNumbers(type)
+                || type.getKind() == TypeKind.ARRAY && isOwn(((ArrayType) type).getComponentType());
+        }
+
+        private boolean isConstantOf(TypeMirror type) {
+            boolean single = Set.of(TypeKind.INT, TypeKind.LONG, TypeKind.BOOLEAN, TypeKind.CHAR).contains(type.getKind());
+            return single || isText(type) || isArrayOfNumbers(type);
+        }
+
+        @Override
+        public Void visitVariable(VariableTree tree, Void v) {
+            Element e = trees.getElement(getCurrentPath());
+            checks.that("line " + line(tree) + ": the type " + e.asType(), isPlain(e.asType()));
+            if (e.getModifiers().toString().contains("static")) {
+                checks.that("line " + line(tree) + ": a static " + e.asType(), isConstantOf(e.asType()));
+                checks.that("line " + line(tree) + ": without a constant", tree.getInitializer() != null);
+            }
+            return super.visitVariable(tree, v);
+        }
+
+        @Override
+        public Void visitTypeCast(TypeCastTree tree, Void v) {
+            checks.that("line " + line(tree) + ": a cast to " + tree.getType(), isNumber(type(tree.getType())));
+            return super.visitTypeCast(tree, v);
+        }
+
+        @Override
+        public Void visitSwitch(SwitchTree tree, Void v) {
+            TypeMirror on = type(tree.getExpression());
+            checks.that("line " + line(tree) + ": a switch on " + on, isNumber(on));
+            return super.visitSwitch(tree, v);
+        }
+
         @Override
         public Void visitClass(ClassTree tree, Void v) {
             classes++;
+            Tree around = getCurrentPath().getParentPath().getLeaf();
+            checks.that("line " + line(tree) + ": a class within a method",
+                around instanceof ClassTree || around instanceof CompilationUnitTree);
             checks.that("some twelve classes", classes <= 12);
             int fields = 0;
             for (Tree member : tree.getMembers()) {
@@ -170,6 +232,7 @@ public final class LanguageTest {
             boolean shown = e.getModifiers().toString().contains("public");
             checks.that(tree.getName() + " has at most seven parameters", tree.getParameters().size() <= 7);
             checks.that(tree.getName() + " has at most sixty lines", lineCount(tree) <= 60);
+            checks.that("the object's own " + tree.getName(), !RESERVED.contains(tree.getName().toString()));
             checks.that(tree.getName() + " bears a public name", shown || !faceNames.contains(tree.getName().toString()));
             checks.that(tree.getName() + " is shown outside the face", !shown
                 || e.getEnclosingElement().getSimpleName().contentEquals("SaidForNothing"));
